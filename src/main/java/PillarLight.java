@@ -1009,18 +1009,16 @@ public final class PillarLight {
         }
 
         private static int kindOf(char sign) {
-            switch (sign) {
-                case '.':
-                    return FLOOR;
-                case '#':
-                    return WALL;
-                case '=':
-                    return GLASS;
-                case '~':
-                    return CURTAIN;
-                default:
-                    return NONE;
+            if (sign == '.') {
+                return FLOOR;
             }
+            if (sign == '#') {
+                return WALL;
+            }
+            if (sign == '=') {
+                return GLASS;
+            }
+            return sign == '~' ? CURTAIN : NONE;
         }
 
         /** Returns the kind of a cell in a pad without a fault as a map. */
