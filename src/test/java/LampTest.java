@@ -10,6 +10,9 @@ public final class LampTest {
         fuelIsBurnt(due);
         lightGrowsWeak(due);
         lampsTellOfThemselves(due);
+        lampsThatAreNotNeeded(due);
+        lampsInTheCorners(due);
+        sixLamps(due);
         due.close();
     }
 
@@ -138,6 +141,64 @@ public final class LampTest {
         due.is("the sum of two lights", x.cell(28, 1), 2 + 12);
         due.is("givers of both", x.cell(28, 5), 3);
         due.is("givers behind the curtain", x.cell(29, 5), 2);
+    }
+
+    private static void lampsThatAreNotNeeded(Due due) {
+        PillarLight x = new PillarLight();
+        x.set(0, 4);
+        x.lamp(0, 1, 1);
+        x.lamp(2, 1, 1);
+        due.is("light of 0", x.cell(0, 1), 4 + 1);
+        due.is("light of 1", x.cell(1, 1), 2 + 2);
+        due.is("a cell just lit", x.cell(1, 2), 1);
+        due.is("lit", x.count(4), 4);
+        due.is("a lit cell with just enough of the other", x.lampOf(1, 3), 3);
+        x.set(0, 5);
+        due.is("a cell just not lit", x.cell(1, 2), 0);
+        due.is("cell 0 needs both", x.lampOf(0, 3), 2);
+    }
+
+    private static void lampsInTheCorners(Due due) {
+        int[] corners = {0, 7, 56, 63};
+        for (int corner : corners) {
+            PillarLight x = new PillarLight();
+            x.lamp(corner, 1, 1);
+            due.is("cells with light of " + corner, x.lampOf(0, 2), 1 + 2 + 1 + 2 + 2);
+            due.is("sum of light", x.count(11), 4 + 4 + 2 + 2 + 2);
+            due.is("greatest light", x.count(12), 4);
+            due.is("the cell with it", x.count(13), corner);
+            x.takeLamp(0);
+            due.is("light behind takeLamp", x.cell(corner, 1), 0);
+            due.is("givers behind takeLamp", x.cell(corner, 5), 0);
+            due.is("sum behind takeLamp", x.count(11), 0);
+        }
+        PillarLight y = new PillarLight();
+        y.lamp(1, 1, 1);
+        due.is("the brightest cell", y.count(13), 1);
+        y.lamp(40, 1, 1);
+        due.is("the lowest of two", y.count(13), 1);
+        y.lamp(50, 2, 1);
+        due.is("the brightest of three", y.count(13), 50);
+    }
+
+    private static void sixLamps(Due due) {
+        PillarLight x = new PillarLight();
+        for (int lamp = 0; lamp < 6; lamp++) {
+            x.lamp(8 * lamp + 9, 1, lamp + 1);
+        }
+        due.is("light", x.cell(25, 1), 1 + 2 + 4 + 2 + 1);
+        due.is("givers", x.cell(25, 5), 31);
+        due.is("givers of a far cell", x.cell(57, 5), 48);
+        due.is("greatest light", x.count(12), 10);
+        due.is("step(1)", x.step(1), 1);
+        for (int lamp = 0; lamp < 6; lamp++) {
+            due.is("fuel of lamp " + lamp, x.lampOf(lamp, 4), lamp);
+        }
+        due.is("givers without the first", x.cell(25, 5), 30);
+        due.is("lamp behind all", x.cell(49, 6), 5);
+        due.is("takeLamp(5)", x.takeLamp(5), 49);
+        due.is("no lamp behind all", x.cell(49, 6), -4);
+        due.is("givers of a far cell", x.cell(57, 5), 16);
     }
 
     private static void lampsTellOfThemselves(Due due) {

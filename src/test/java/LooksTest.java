@@ -5,6 +5,7 @@ public final class LooksTest {
         cells(due);
         counts(due);
         litShares(due);
+        looksTellOfNow(due);
         wrongInputs(due);
         looksChangeNothing(due);
         due.close();
@@ -80,6 +81,62 @@ public final class LooksTest {
         x.takeLamp(0);
         x.lamp(27, 9, 9);
         due.isDouble("litShare()", x.litShare(), 1.0);
+    }
+
+    /** What was told of other states, by calls before, must not be left in any look. */
+    private static void looksTellOfNow(Due due) {
+        for (int before = 0; before < 5; before++) {
+            for (int look = 0; look < 14; look++) {
+                PillarLight x = new PillarLight();
+                x.set(0, 2);
+                x.lamp(27, 1, 1);
+                disturb(x, before);
+                lookAt(due, x, look, "behind " + before + ": ");
+            }
+        }
+    }
+
+    private static void disturb(PillarLight x, int before) {
+        switch (before) {
+            case 0:
+                x.lamp(60, 9, 9);
+                x.undo();
+                break;
+            case 1:
+                x.ifPut(27, 1, 0);
+                break;
+            case 2:
+                x.darkIn();
+                break;
+            case 3:
+                x.exposure(63, 0);
+                x.way(63, 2);
+                break;
+            default:
+                x.save();
+                x.step(1);
+                x.restore();
+                break;
+        }
+    }
+
+    private static void lookAt(Due due, PillarLight x, int look, String behind) {
+        switch (look) {
+            case 0: due.is(behind + "count(11)", x.count(11), 4 + 8 + 8 + 4 + 8); break;
+            case 1: due.is(behind + "count(12)", x.count(12), 4); break;
+            case 2: due.is(behind + "count(13)", x.count(13), 27); break;
+            case 3: due.is(behind + "count(4)", x.count(4), 9); break;
+            case 4: due.is(behind + "count(5)", x.count(5), 13); break;
+            case 5: due.is(behind + "lampOf(0, 2)", x.lampOf(0, 2), 21); break;
+            case 6: due.is(behind + "lampOf(0, 3)", x.lampOf(0, 3), 9); break;
+            case 7: due.is(behind + "bestLamp(1)", x.bestLamp(1), 14); break;
+            case 8: due.is(behind + "cell(19, 2)", x.cell(19, 2), 1); break;
+            case 9: due.is(behind + "cell(19, 5)", x.cell(19, 5), 1); break;
+            case 10: due.is(behind + "exposure(63, 1)", x.exposure(63, 1), 14); break;
+            case 11: due.is(behind + "exposure(27, 0)", x.exposure(27, 0), 6 + 1 + 2 + 4); break;
+            case 12: due.is(behind + "ifPut(0, 0, 0)", x.ifPut(0, 0, 0), 9); break;
+            default: due.isDouble(behind + "litShare()", x.litShare(), 9 / 64.0); break;
+        }
     }
 
     private static void wrongInputs(Due due) {

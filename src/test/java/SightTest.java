@@ -6,6 +6,7 @@ public final class SightTest {
         endsDoNotMatter(due);
         insides(due);
         corners(due);
+        cornersOfTheMap(due);
         steepCorners(due);
         bothWaysAndBack(due);
         wrongInputs(due);
@@ -91,6 +92,20 @@ public final class SightTest {
         x.put(57, 1);
         sees(due, x, 7, 56, 0);
         sees(due, x, 7, 49, 1);
+    }
+
+    private static void cornersOfTheMap(Due due) {
+        int[][] all = {{0, 9, 1, 8}, {7, 14, 6, 15}, {56, 49, 48, 57}, {63, 54, 62, 55}};
+        for (int[] corner : all) {
+            PillarLight x = new PillarLight();
+            x.put(corner[0], 3);
+            sees(due, x, corner[2], corner[3], 1);
+            x.put(corner[1], 3);
+            sees(due, x, corner[2], corner[3], 0);
+            due.is("stops(" + corner[2] + ", " + corner[3] + ")", x.stops(corner[2], corner[3]), -4);
+            x.put(corner[0], 0);
+            sees(due, x, corner[2], corner[3], 1);
+        }
     }
 
     private static void steepCorners(Due due) {

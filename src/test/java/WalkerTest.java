@@ -6,6 +6,7 @@ public final class WalkerTest {
         stepsAtTheEdges(due);
         whatStopsFeet(due);
         memory(due);
+        memoryOfChanges(due);
         sightOfLitCells(due);
         fuelGoesFirst(due);
         walks(due);
@@ -82,6 +83,36 @@ public final class WalkerTest {
         due.is("forget()", x.forget(), 6);
         due.is("forget()", x.forget(), 4);
         due.is("states", x.count(17), 4);
+    }
+
+    private static void memoryOfChanges(Due due) {
+        PillarLight x = new PillarLight();
+        x.put(1, 1);
+        x.set(1, 2);
+        due.is("behind the wall", x.cell(2, 4), 0);
+        x.put(1, 0);
+        due.is("behind put()", x.cell(2, 4), 1);
+        x.undo();
+        due.is("behind undo()", x.cell(2, 4), 0);
+        MapTest.type(x, MapTest.FLOORS);
+        x.load();
+        due.is("behind load()", x.cell(2, 4), 1);
+        PillarLight y = new PillarLight();
+        y.put(9, 1);
+        y.lamp(63, 1, 1);
+        y.fill(0, 0);
+        y.put(9, 0);
+        due.is("without fuel", y.cell(63, 4), 0);
+        y.fill(0, 1);
+        due.is("behind fill()", y.cell(63, 4), 1);
+        due.is("beside the lamp", y.cell(62, 4), 0);
+        y.set(0, 2);
+        due.is("behind set()", y.cell(62, 4), 1);
+        y.lamp(36, 1, 1);
+        due.is("behind lamp()", y.cell(28, 4), 1);
+        y.takeLamp(1);
+        due.is("behind takeLamp()", y.cell(28, 4), 1);
+        due.is("seen behind takeLamp()", y.cell(28, 3), 0);
     }
 
     private static void sightOfLitCells(Due due) {

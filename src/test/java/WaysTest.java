@@ -6,6 +6,7 @@ public final class WaysTest {
         roundALamp(due);
         noWay(due);
         throughAGate(due);
+        firstOfAllCalls(due);
         wrongInputs(due);
         due.close();
     }
@@ -84,6 +85,29 @@ public final class WaysTest {
         x.lamp(57, 9, 9);
         exposure(due, x, 56, 7 + lights(x, 8, 16, 24, 32, 40, 48, 56));
         exposure(due, x, 57, 8 + lights(x, 8, 16, 24, 32, 40, 48, 56, 57));
+    }
+
+    private static void firstOfAllCalls(Due due) {
+        for (int way = 0; way <= 1; way++) {
+            PillarLight x = new PillarLight();
+            due.is("exposure(63, " + way + ") first", x.exposure(63, way), 14);
+            x.step(2);
+            due.is("exposure(63, " + way + ") then", x.exposure(63, way), 13);
+            x.lamp(63, 1, 1);
+            due.is("exposure(63, " + way + ") to a lamp", x.exposure(63, way), 13 + 1 + 2 + 4);
+            x.put(0, 1);
+            x.put(9, 1);
+            x.put(16, 2);
+            due.is("exposure(63, " + way + ") without a way", x.exposure(63, way), -4);
+            due.is("reached", x.count(7), 1);
+        }
+        PillarLight y = new PillarLight();
+        y.lamp(1, 1, 1);
+        due.is("way(9, 1) first", y.way(9, 1), 8);
+        due.is("way(1, 1) then", y.way(1, 1), 1);
+        y.put(1, 1);
+        due.is("way(2, 1) round a wall", y.way(2, 1), 8);
+        due.is("way(2, 3) round a wall", y.way(2, 3), 10);
     }
 
     private static int lights(PillarLight x, int... cells) {

@@ -6,6 +6,7 @@ public final class WouldBeTest {
         ifPutWrongInputs(due);
         bestLamps(due);
         bestLampsAmongPillars(due);
+        bestLampsBesideLitCells(due);
         darkIns(due);
         due.close();
     }
@@ -95,6 +96,26 @@ public final class WouldBeTest {
         y.takeLamp(0);
         y.lamp(63, 1, 9);
         due.is("bestLamp(1) beside a far lamp", y.bestLamp(1), 46);
+    }
+
+    private static void bestLampsBesideLitCells(Due due) {
+        PillarLight x = new PillarLight();
+        x.set(0, 4);
+        x.lamp(18, 1, 9);
+        due.is("just lit cells beside a lamp", x.bestLamp(1), 10);
+        x.set(0, 2);
+        due.is("lit", x.count(4), 9);
+        int best = x.bestLamp(1);
+        x.lamp(best, 1, 9);
+        int most = x.count(4);
+        x.undo();
+        for (int cell = 0; cell < 64; cell++) {
+            if (x.lamp(cell, 1, 9) >= 0) {
+                due.holds("no cell is better than " + best + ", and no lower one as good: " + cell,
+                        x.count(4) < most || x.count(4) == most && cell >= best);
+                x.undo();
+            }
+        }
     }
 
     private static void darkIns(Due due) {
