@@ -25,11 +25,11 @@ public final class PillarLight {
     private final Ways ways;
 
     public PillarLight() {
-        Scene first = new Scene();
-        Light sun = new Light();
-        first.remembered = sun.seenCells(first);
-        now = first;
-        light = sun;
+        Scene firstScene = new Scene();
+        Light firstLight = new Light();
+        firstScene.remembered = firstLight.seenCells(firstScene);
+        now = firstScene;
+        light = firstLight;
         trial = new Scene();
         snapshot = new Scene();
         history = new History();
@@ -437,6 +437,8 @@ public final class PillarLight {
             return cell % SIDE;
         }
 
+        // Rows and columns are divided out here and in Line.start(), so that no chain of calls is
+        // more than eight deep.
         static int rowsBetween(int from, int to) {
             return Math.abs(to / SIDE - from / SIDE);
         }
@@ -579,7 +581,7 @@ public final class PillarLight {
         }
     }
 
-    /** The straight line between the middles of two cells: who goes along it, and what stands in it. */
+    /** The straight line between the middles of two cells, and what stops it. */
     private static final class Line {
         /** More cells than a line on the map goes through. */
         private static final int LONGEST = 2 * SIDE;
@@ -697,6 +699,7 @@ public final class PillarLight {
     /** What the lamps of a scene give, some steps from now, and what the walker sees by it. */
     private static final class Light {
         final Line line = new Line();
+        /** The light of each cell; each look works it out anew, as a trial may have been there. */
         private final int[] all = new int[CELLS];
 
         private static int strengthAt(int strength, int from, int to) {

@@ -37,6 +37,10 @@ public final class FaceTest {
         return told.append(')').toString();
     }
 
+    private static boolean isNoFaceName(Method method) {
+        return FACE.stream().noneMatch(told -> told.startsWith(method.getName() + "("));
+    }
+
     private static void face(Due due) {
         due.is("modifiers", PillarLight.class.getModifiers(), Modifier.PUBLIC | Modifier.FINAL);
         Set<String> methods = new TreeSet<>();
@@ -47,8 +51,7 @@ public final class FaceTest {
                 due.holds(method + " is as told", method.getReturnType().getName().equals(type)
                         && method.getModifiers() == Modifier.PUBLIC);
             } else {
-                due.holds(method + " has no public one's name",
-                        FACE.stream().noneMatch(told -> told.startsWith(method.getName() + "(")));
+                due.holds(method + " has no public one's name", isNoFaceName(method));
             }
         }
         due.holds("the methods are the document's: " + methods, methods.equals(FACE));
@@ -80,6 +83,7 @@ public final class FaceTest {
             }
             for (Method method : inside.getDeclaredMethods()) {
                 due.holds(method + " has at most seven parameters", method.getParameterCount() <= 7);
+                due.holds(method + " has no public one's name", isNoFaceName(method));
             }
         }
     }
