@@ -437,14 +437,12 @@ public final class PillarLight {
             return cell % SIDE;
         }
 
-        // Rows and columns are divided out here and in Line.start(), so that no chain of calls is
-        // more than eight deep.
         static int rowsBetween(int from, int to) {
-            return Math.abs(to / SIDE - from / SIDE);
+            return Math.abs(row(to) - row(from));
         }
 
         static int columnsBetween(int from, int to) {
-            return Math.abs(to % SIDE - from % SIDE);
+            return Math.abs(column(to) - column(from));
         }
 
         /** Returns the next cell in a direction, NONE where the map ends. */
@@ -602,14 +600,15 @@ public final class PillarLight {
         private int lead;
 
         private void start(int from, int to) {
+            // Divided and turned here, as the chain of calls that ends here is the deepest of all.
             int down = to / SIDE - from / SIDE;
             int along = to % SIDE - from % SIDE;
             cell = from;
             goal = to;
             rowStep = down < 0 ? -SIDE : SIDE;
             columnStep = along < 0 ? -1 : 1;
-            rows = Math.abs(down);
-            columns = Math.abs(along);
+            rows = down < 0 ? -down : down;
+            columns = along < 0 ? -along : along;
             lead = columns - rows;
         }
 
@@ -703,9 +702,9 @@ public final class PillarLight {
         private final int[] all = new int[CELLS];
 
         private static int strengthAt(int strength, int from, int to) {
-            int rows = Grid.rowsBetween(from, to);
-            int columns = Grid.columnsBetween(from, to);
-            return 8 * strength / (2 + rows * rows + columns * columns);
+            int down = Grid.row(to) - Grid.row(from);
+            int along = Grid.column(to) - Grid.column(from);
+            return 8 * strength / (2 + down * down + along * along);
         }
 
         private int gift(Scene scene, int lamp, int cell, int steps) {

@@ -31,55 +31,38 @@ public final class HistoryTest {
     }
 
     private static void undoTakesAllBack(Due due) {
-        PillarLight x = new PillarLight();
-        x.lamp(20, 3, 30);
-        x.lamp(30, 4, 40);
-        int before = told(x);
-        x.put(20, 1);
-        undo(due, x, before, "put");
-        x.lamp(50, 1, 1);
-        undo(due, x, before, "lamp");
-        x.takeLamp(0);
-        undo(due, x, before, "takeLamp");
-        x.fill(1, 7);
-        undo(due, x, before, "fill");
-        x.set(1, 4);
-        undo(due, x, before, "set");
-        x.step(2);
-        undo(due, x, before, "step");
-        x.save();
-        x.restore();
-        undo(due, x, before, "restore");
-        MapTest.type(x, "121");
-        x.walk();
-        undo(due, x, before, "walk");
-        MapTest.type(x, MapTest.FLOORS.replace("./", "#/"));
-        x.load();
-        undo(due, x, before, "load");
-        x.set(1, 0);
-        x.forget();
-        due.is("undo()", x.undo(), 3);
-        undo(due, x, before, "forget");
+        for (int change = 0; change < 10; change++) {
+            PillarLight x = new PillarLight();
+            x.lamp(20, 3, 30);
+            x.lamp(30, 4, 40);
+            String before = Told.all(x);
+            x.save();
+            change(x, change);
+            due.is("states behind change " + change, x.count(17), 3);
+            due.is("undo() of change " + change, x.undo(), 2);
+            due.isText("what is told behind undo of change " + change, Told.all(x), before);
+        }
     }
 
-    private static void undo(Due due, PillarLight x, int before, String call) {
-        due.holds(call + " records one state", x.count(17) == 3);
-        due.is("undo() of " + call, x.undo(), 2);
-        due.is("what is told behind undo of " + call, told(x), before);
-    }
-
-    private static int told(PillarLight x) {
-        int told = 0;
-        for (int what = 0; what <= 15; what++) {
-            told = 31 * told + x.count(what);
+    private static void change(PillarLight x, int change) {
+        switch (change) {
+            case 0: x.put(20, 1); break;
+            case 1: x.lamp(50, 1, 1); break;
+            case 2: x.takeLamp(0); break;
+            case 3: x.fill(1, 7); break;
+            case 4: x.set(1, 4); break;
+            case 5: x.step(2); break;
+            case 6: x.restore(); break;
+            case 7:
+                MapTest.type(x, "121");
+                x.walk();
+                break;
+            case 8:
+                MapTest.type(x, MapTest.FLOORS.replace("./", "#/"));
+                x.load();
+                break;
+            default: x.forget(); break;
         }
-        for (int cell = 0; cell < 64; cell++) {
-            told = 31 * (31 * told + x.cell(cell, 0)) + x.cell(cell, 4);
-        }
-        for (int lamp = 0; lamp < 6; lamp++) {
-            told = 31 * (31 * (31 * told + x.lampOf(lamp, 0)) + x.lampOf(lamp, 1)) + x.lampOf(lamp, 4);
-        }
-        return told;
     }
 
     private static void undoLeavesPadAndSnapshot(Due due) {
@@ -104,7 +87,7 @@ public final class HistoryTest {
         x.put(40, 2);
         x.set(1, 2);
         x.step(1);
-        int before = told(x);
+        String before = Told.all(x);
         due.is("save()", x.save(), 1);
         x.append(50);
         x.takeLamp(0);
@@ -113,12 +96,12 @@ public final class HistoryTest {
         x.step(2);
         x.forget();
         due.is("restore()", x.restore(), 1);
-        due.is("what is told behind restore()", told(x), before);
+        due.isText("what is told behind restore()", Told.all(x), before);
         due.is("the pad stays", x.count(16), 1);
         due.is("states", x.count(17), 4);
         x.step(2);
         due.is("restore() again", x.restore(), 1);
-        due.is("what is told behind it", told(x), before);
+        due.isText("what is told behind it", Told.all(x), before);
         x.step(2);
         due.is("save() in place of it", x.save(), 9);
         x.step(2);
@@ -146,14 +129,14 @@ public final class HistoryTest {
         x.put(1, 1);
         x.lamp(20, 3, 3);
         x.append(65);
-        int before = told(x);
+        String before = Told.all(x);
         int[] answers = {x.put(0, 1), x.put(64, 1), x.lamp(20, 1, 1), x.lamp(1, 1, 1), x.lamp(2, 0, 1),
             x.takeLamp(1), x.fill(0, 100), x.set(0, 0), x.set(2, 2), x.step(1), x.step(9), x.append(32),
             x.load(), x.walk(), x.restore()};
         for (int answer : answers) {
             due.holds("each is an error", answer == -1 || answer == -2);
         }
-        due.is("what is told behind errors", told(x), before);
+        due.isText("what is told behind errors", Told.all(x), before);
         due.is("states", x.count(17), 2);
         due.is("the pad", x.count(16), 1);
     }

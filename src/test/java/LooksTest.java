@@ -152,36 +152,33 @@ public final class LooksTest {
     }
 
     private static void looksChangeNothing(Due due) {
-        PillarLight x = new PillarLight();
-        x.put(10, 1);
-        x.lamp(20, 5, 5);
-        x.append(49);
-        int before = told(x);
-        for (int cell = 0; cell < 64; cell++) {
-            x.cell(cell, cell % 8);
-            x.sees(cell, 63 - cell, cell % 2);
-            x.stops(cell, 7);
-            x.exposure(cell, cell % 2);
-            x.way(cell, 3);
-            x.ifPut(cell, cell % 4, cell % 3);
+        for (int look = 0; look < 12; look++) {
+            PillarLight x = new PillarLight();
+            x.put(10, 1);
+            x.lamp(20, 5, 5);
+            x.append(49);
+            String before = Told.all(x) + Told.brief(x);
+            lookEverywhere(x, look);
+            due.isText("what is told before and behind look " + look, Told.all(x) + Told.brief(x), before);
         }
-        x.lampOf(0, 3);
-        x.litShare();
-        x.bestLamp(9);
-        x.darkIn();
-        x.fault(0);
-        x.fault(1);
-        due.is("what is told before and behind looks", told(x), before);
     }
 
-    private static int told(PillarLight x) {
-        int told = 0;
-        for (int what = 0; what <= 17; what++) {
-            told = 31 * told + x.count(what);
-        }
+    private static void lookEverywhere(PillarLight x, int look) {
         for (int cell = 0; cell < 64; cell++) {
-            told = 31 * (31 * told + x.cell(cell, 0)) + x.cell(cell, 4);
+            switch (look) {
+                case 0: x.cell(cell, cell % 8); break;
+                case 1: x.sees(cell, 63 - cell, cell % 2); break;
+                case 2: x.stops(cell, 7); break;
+                case 3: x.exposure(cell, cell % 2); break;
+                case 4: x.way(cell, 3); break;
+                case 5: x.ifPut(cell, cell % 4, cell % 3); break;
+                case 6: x.lampOf(0, cell % 5); break;
+                case 7: x.litShare(); break;
+                case 8: x.bestLamp(cell % 10); break;
+                case 9: x.darkIn(); break;
+                case 10: x.fault(cell % 2); break;
+                default: x.count(cell % 18); break;
+            }
         }
-        return told;
     }
 }

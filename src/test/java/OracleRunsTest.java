@@ -1,6 +1,8 @@
 /** Many runs of calls, made by a fixed row of numbers, whose answers the oracle tells too: all promises. */
 public final class OracleRunsTest {
     private static final int CALLS = 512;
+    /** More calls than a turn makes, so that no object is used for more than its 512. */
+    private static final int TURN = 20;
 
     private final Due due = new Due("OracleRunsTest");
     private long seed;
@@ -46,8 +48,11 @@ public final class OracleRunsTest {
         for (int i = 0; number % 3 == 1 && i < pillars; i++) {
             put(below(64), 1 + below(3));
         }
-        while (calls < CALLS) {
+        while (calls + TURN <= CALLS) {
             call(below(40));
+        }
+        while (calls < CALLS) {
+            count(about(0, 17));
         }
     }
 

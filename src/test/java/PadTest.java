@@ -47,15 +47,19 @@ public final class PadTest {
         fault(due, x, 0, floors + ".", 71);
         fault(due, x, 0, floors + "/.......", 71);
         fault(due, x, 0, floors.substring(0, 70), 70);
-        fault(due, x, 0, floors.substring(0, 63), 63);
+        fault(due, x, 0, floors.substring(0, 30), 30);
+        shortFaultsOfMaps(due, new PillarLight());
+        fault(due, x, 0, floors.substring(0, 70) + "!", 70);
+        fault(due, x, 0, floors.substring(0, 70) + "#", -4);
+    }
+
+    private static void shortFaultsOfMaps(Due due, PillarLight x) {
         fault(due, x, 0, ".#=~/", 4);
         fault(due, x, 0, ".#=~.#=~.", 8);
         fault(due, x, 0, ".#=~.#=~/", 9);
         fault(due, x, 0, "........//", 9);
         fault(due, x, 0, "0", 0);
         fault(due, x, 0, "..-", 2);
-        fault(due, x, 0, floors.substring(0, 70) + "!", 70);
-        fault(due, x, 0, floors.substring(0, 70) + "#", -4);
     }
 
     private static void faultsAtTheWalker(Due due) {

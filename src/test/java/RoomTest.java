@@ -26,7 +26,7 @@ public final class RoomTest {
         }
         sum += x.fault(0) + x.fault(1) + x.load();
         sum += x.append('1') + x.append('2') + x.walk() + x.undo() + x.save() + x.restore();
-        for (int what = -1; what <= 18; what++) {
+        for (int what = -1; what <= 9; what++) {
             sum += x.cell(30, what) + x.lampOf(0, what) + x.count(what) + x.ifPut(20, 3, what);
             sum += x.sees(0, 40 + what, what & 1) + x.stops(0, 40 + what) + x.exposure(63, what & 1);
             sum += x.way(63, what) + x.bestLamp(what) + x.darkIn() + (int) x.litShare();

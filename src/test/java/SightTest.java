@@ -141,12 +141,12 @@ public final class SightTest {
     }
 
     private static void bothWaysAndBack(Due due) {
-        PillarLight x = new PillarLight();
         int[] pillars = {10, 13, 17, 22, 27, 28, 33, 38, 43, 44, 50, 53};
-        for (int i = 0; i < pillars.length; i++) {
-            x.put(pillars[i], i % 2 == 0 ? 1 : 3);
-        }
         for (int from = 0; from < 64; from++) {
+            PillarLight x = new PillarLight();
+            for (int i = 0; i < pillars.length; i++) {
+                x.put(pillars[i], i % 2 == 0 ? 1 : 3);
+            }
             int seen = 0;
             for (int to = 0; to < 64; to++) {
                 int along = x.sees(from, to, 0);
